@@ -36,6 +36,11 @@ public final class FieldRows {
     private static final int STRAIGHT = 5;
     private static final int SLANTWISE = 7;
 
+    /** What a step to each neighbour adds to a SQUARE's place: the straight ones first. */
+    private static final int[] STEPS = {-1, 1, -40, 40, -41, -39, 39, 41};
+    private static final int ALL_STEPS = 8;
+    private static final int STRAIGHT_STEPS = 4;
+
     /** Stands for a length that is none: above every SUM, yet two of them are no overflow. */
     private static final int FAR = 1000000;
 
@@ -437,6 +442,8 @@ public final class FieldRows {
     /** What each SQUARE is. */
     private static final class Land {
         final int[] kinds = new int[SQUARES];
+        /** Which STEPS from each SQUARE lead to one that is not OUT, a bit each. */
+        final int[] nears = new int[SQUARES];
         private final int[] depths = new int[SQUARES];
         boolean laid;
         int head;
@@ -454,6 +461,7 @@ public final class FieldRows {
             laid = true;
             head = headland;
             markField(rings);
+            markNears();
             sound();
             markHead();
         }
@@ -479,6 +487,22 @@ public final class FieldRows {
                 }
             }
             return true;
+        }
+
+        private void markNears() {
+            for (int s = 0; s < SQUARES; s++) {
+                nears[s] = 0;
+                for (int k = 0; k < ALL_STEPS; k++) {
+                    if (isStep(s, s + STEPS[k]) && kinds[s + STEPS[k]] != OUT) {
+                        nears[s] |= 1 << k;
+                    }
+                }
+            }
+        }
+
+        /** A step over the LAND's left or right edge would come out a whole row away. */
+        private boolean isStep(int from, int to) {
+            return to >= 0 && to < SQUARES && Math.abs(to % WIDE - from % WIDE) <= 1;
         }
 
         /** King's steps to what is OUT or beyond the LAND; two sweeps there and back find them all. */
@@ -561,33 +585,31 @@ public final class FieldRows {
         }
 
         private void stepFrom(int square) {
-            int x = square % WIDE;
-            int y = square / WIDE;
-            int length = lengths[square];
-            for (int dy = -1; dy <= 1; dy++) {
-                for (int dx = -1; dx <= 1; dx++) {
-                    if (isSquare(x + dx, y + dy)) {
-                        reach(squareAt(x + dx, y + dy), length, dx != 0 && dy != 0);
+            int near = land.nears[square];
+            int straight = lengths[square] + STRAIGHT;
+            int slantwise = lengths[square] + SLANTWISE;
+            for (int k = 0; k < ALL_STEPS; k++) {
+                if ((near >> k & 1) != 0) {
+                    int next = square + STEPS[k];
+                    int length = k < STRAIGHT_STEPS ? straight : slantwise;
+                    if (length < lengths[next]) {
+                        reach(next, length, k < STRAIGHT_STEPS);
                     }
                 }
             }
         }
 
-        private void reach(int square, int lengthSoFar, boolean slantwise) {
-            int length = lengthSoFar + (slantwise ? SLANTWISE : STRAIGHT);
-            if (land.kinds[square] == OUT || length >= lengths[square]) {
-                return;
-            }
+        private void reach(int square, int length, boolean straight) {
             lengths[square] = length;
             if (land.kinds[square] != HEAD) {
                 return;
             }
-            if (slantwise && slantwiseSize < SQUARES) {
-                slantwises[slantwiseSize] = square;
-                slantwiseSize++;
-            } else if (!slantwise && straightSize < SQUARES) {
+            if (straight && straightSize < SQUARES) {
                 straights[straightSize] = square;
                 straightSize++;
+            } else if (!straight && slantwiseSize < SQUARES) {
+                slantwises[slantwiseSize] = square;
+                slantwiseSize++;
             }
         }
     }
@@ -693,17 +715,13 @@ public final class FieldRows {
 
         private int floodFrom(int square, int filledSoFar) {
             int filled = filledSoFar;
-            int x = square % WIDE;
-            int y = square / WIDE;
-            for (int dy = -1; dy <= 1; dy++) {
-                for (int dx = -1; dx <= 1; dx++) {
-                    if (isSquare(x + dx, y + dy) && filled < SQUARES) {
-                        int next = squareAt(x + dx, y + dy);
-                        if (land.kinds[next] == INNER && numbers[next] == NONE && strips[next] == strips[square]) {
-                            numbers[next] = size;
-                            spare[filled] = next;
-                            filled++;
-                        }
+            for (int k = 0; k < ALL_STEPS; k++) {
+                if ((land.nears[square] >> k & 1) != 0 && filled < SQUARES) {
+                    int next = square + STEPS[k];
+                    if (land.kinds[next] == INNER && numbers[next] == NONE && strips[next] == strips[square]) {
+                        numbers[next] = size;
+                        spare[filled] = next;
+                        filled++;
                     }
                 }
             }

@@ -8,6 +8,9 @@ public final class ModelTests {
         29, 30, 31, 39, 40, 41, 60, 119, 120, 400, 401, 1000, 1001, 100000, 100001, 1000000, 1000001,
         Integer.MAX_VALUE};
 
+    /** Headlands of one and two are the richest: there is something to turn in and something to do. */
+    private static final int[] HEADS = {0, 1, 1, 1, 2, 2, 3, 5};
+
     private final Random random;
     private final FieldRows rows = new FieldRows();
     private final Model model = new Model();
@@ -39,10 +42,10 @@ public final class ModelTests {
         while (calls < 470 && check.wrong() == 0) {
             if (random.nextInt(12) == 0 || calls == 0) {
                 makeField();
-                call("lay", random.nextInt(6));
+                call("lay", HEADS[random.nextInt(HEADS.length)]);
             }
-            if (random.nextInt(4) == 0) {
-                call("lay", random.nextInt(5));
+            if (random.nextInt(6) == 0 || rows.count(0) == 0) {
+                call("lay", HEADS[random.nextInt(HEADS.length)]);
             }
             for (int k = 0; k < 12; k++) {
                 doSomething(mostRows);
@@ -54,8 +57,8 @@ public final class ModelTests {
         for (int ring = 0; ring < 4; ring++) {
             call("clear", ring);
         }
-        boolean wide = random.nextInt(3) == 0;
-        makeRing(0, wide ? 40 : 8 + random.nextInt(20), wide ? 30 : 6 + random.nextInt(15));
+        boolean wide = random.nextBoolean();
+        makeRing(0, wide ? 40 : 10 + random.nextInt(20), wide ? 30 : 8 + random.nextInt(15));
         int islands = random.nextInt(3);
         for (int ring = 1; ring <= islands; ring++) {
             makeRing(ring, 25, 20);
@@ -75,7 +78,7 @@ public final class ModelTests {
             call("corner", ring, left, top);
             return;
         }
-        int corners = kind == 1 ? 3 : 4 + random.nextInt(9);
+        int corners = kind == 1 ? 3 : 4 + random.nextInt(10);
         for (int k = 0; k < corners; k++) {
             call("corner", ring, random.nextInt(wide + 1), random.nextInt(high + 1));
         }
@@ -97,16 +100,16 @@ public final class ModelTests {
                 call("bound");
                 break;
             case 6:
-                call("swing", random.nextInt(5), random.nextInt(9));
+                swingSome();
                 break;
             case 7:
-            case 8:
-                for (int k = 0; k < 6; k++) {
-                    call("yields", random.nextInt(40), random.nextInt(30), random.nextInt(1001));
-                    call("bears", random.nextInt(40), random.nextInt(30), random.nextInt(3000));
+                for (int k = 0; k < 5; k++) {
+                    call("yields", random.nextInt(15), random.nextInt(12), random.nextInt(1001));
+                    call("bears", random.nextInt(15), random.nextInt(12), random.nextInt(3000));
                 }
                 call("reaper", 1 + random.nextInt(1500), random.nextInt(2000), random.nextInt(20));
                 break;
+            case 8:
             case 9:
             case 10:
                 call("run");
@@ -138,7 +141,7 @@ public final class ModelTests {
         for (int k = 0; k < 3; k++) {
             int width = 1 + random.nextInt(random.nextBoolean() ? 400 : 20);
             call("rows", a, b, width);
-            if (rows.count(0) == 0 || rows.count(4) > 0 && rows.count(4) <= mostRows) {
+            if (rows.count(3) == 0 || rows.count(4) > 0 && rows.count(4) <= mostRows) {
                 break;
             }
         }
@@ -152,6 +155,18 @@ public final class ModelTests {
                 call("row", row, what);
             }
             call("turn", random.nextInt(2 * rows.count(4)), random.nextInt(2 * rows.count(4)));
+        }
+    }
+
+    private void swingSome() {
+        if (rows.count(5) == 0) {
+            call("best");
+        }
+        int size = Math.max(rows.count(4), 1);
+        for (int k = 0; k < 3; k++) {
+            int i = random.nextInt(size);
+            call("swing", i, i + random.nextInt(size + 1 - i));
+            call("run");
         }
     }
 
