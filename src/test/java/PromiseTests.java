@@ -421,6 +421,8 @@ public final class PromiseTests {
         CHECK.is("10: from none such", NONE, () -> f.way(40, 0, 0, 0));
         CHECK.is("10: to none such", NONE, () -> f.way(0, 0, 0, 30));
         CHECK.is("10: least, most", NONE, () -> f.way(LEAST, MOST, MOST, LEAST));
+        FieldRows whole = laidBox(40, 30, 1);
+        CHECK.is("10: not over the land's edge", 4 * 5 + 7 + 37 * 5 + 7 + 5 * 5, () -> whole.way(39, 5, 0, 6));
         FieldRows g = new FieldRows();
         box(g, 0, 0, 0, 4, 4);
         box(g, 1, 2, 0, 4, 2);
@@ -496,6 +498,9 @@ public final class PromiseTests {
         ten.rows(1, 0, 2);
         CHECK.is("12: ten rows", 45, ten::best);
         CHECK.same("12: there and back, too", "0 3 4 7 8 11 12 15 16 19", planOf(ten));
+        FieldRows narrowNine = narrowField(14, 8);
+        CHECK.is("12: of nine rows all orders are tried", 55, narrowNine::best);
+        CHECK.same("12: the first of those", "1 2 5 6 9 10 13 14 17", planOf(narrowNine));
         FieldRows narrow = narrowField(16, 10);
         CHECK.is("12: of eleven rows not all orders are tried (65)", 67, narrow::best);
         CHECK.same("12: but the nearest", "0 3 4 7 8 11 12 15 17 18 21", planOf(narrow));
@@ -506,6 +511,13 @@ public final class PromiseTests {
         CHECK.is("12: twelve rows", 12, () -> island.rows(1, 0, 2));
         CHECK.is("12: the nearest, 94, is turned round to", 55, island::best);
         CHECK.same("12: place by place", "12 9 4 1 3 7 11 14 17 18 21 22", planOf(island));
+        FieldRows one = new FieldRows();
+        box(one, 0, 0, 0, 7, 12);
+        box(one, 1, 3, 3, 5, 5);
+        one.lay(1);
+        one.rows(1, 0, 2);
+        CHECK.is("12: one place alone is turned round", 45, one::best);
+        CHECK.same("12: the first", "1 2 4 6 8 10 13 14 17 18", planOf(one));
         FieldRows high = new FieldRows();
         box(high, 0, 0, 0, 14, 9);
         box(high, 1, 8, 4, 11, 5);
