@@ -51,7 +51,7 @@ public final class FieldRows {
     private final Turns turns;
     private final Plan plan;
     private final Planner planner;
-    private final Slants slants;
+    private final Pairs slants;
     private final Reaper reaper;
 
     public FieldRows() {
@@ -65,7 +65,7 @@ public final class FieldRows {
         turns = new Turns(ways, rows);
         plan = new Plan(turns);
         planner = new Planner(plan, turns);
-        slants = new Slants();
+        slants = new Pairs(MOST_SLANTS);
         reaper = new Reaper();
     }
 
@@ -75,17 +75,17 @@ public final class FieldRows {
         if (x < 0 || x > WIDE || y < 0 || y > HIGH) {
             throw new IllegalArgumentException("no such corner");
         }
-        if (rings[ring].isFull()) {
+        if (rings[ring].corners.isFull()) {
             throw new UnsupportedOperationException("the ring has all its corners");
         }
         forgetLand();
-        return rings[ring].add(x, y);
+        return rings[ring].corners.add(x, y);
     }
 
     public int clear(int ring) throws IndexOutOfBoundsException {
         needRing(ring);
         forgetLand();
-        return rings[ring].drop();
+        return rings[ring].corners.drop();
     }
 
     public int area(int ring) throws IndexOutOfBoundsException {
@@ -349,7 +349,7 @@ public final class FieldRows {
     /** The ROWS and the PLAN of told slant k come: the PLAN's SUM, or NONE. */
     private int tryOut(int k, int width) {
         forgetRows();
-        if (rows.make(slants.as[k], slants.bs[k], width) == NONE) {
+        if (rows.make(slants.firsts[k], slants.seconds[k], width) == NONE) {
             return NONE;
         }
         turns.learnAll();
@@ -372,20 +372,25 @@ public final class FieldRows {
         return length >= FAR ? NONE : length;
     }
 
-    /** A row of corners that closes itself. */
-    private static final class Ring {
-        final int[] xs = new int[MOST_CORNERS];
-        final int[] ys = new int[MOST_CORNERS];
+    /** A row of pairs of numbers, up to so many. */
+    private static final class Pairs {
+        final int[] firsts;
+        final int[] seconds;
         int size;
 
-        boolean isFull() {
-            return size >= MOST_CORNERS;
+        Pairs(int most) {
+            firsts = new int[Math.max(most, 0)];
+            seconds = new int[Math.max(most, 0)];
         }
 
-        int add(int x, int y) {
+        boolean isFull() {
+            return size >= firsts.length;
+        }
+
+        int add(int first, int second) {
             if (!isFull()) {
-                xs[size] = x;
-                ys[size] = y;
+                firsts[size] = first;
+                seconds[size] = second;
                 size++;
             }
             return size;
@@ -396,25 +401,30 @@ public final class FieldRows {
             size = 0;
             return had;
         }
+    }
+
+    /** A row of corners that closes itself. */
+    private static final class Ring {
+        final Pairs corners = new Pairs(MOST_CORNERS);
 
         int twiceArea() {
-            if (size < 3) {
+            if (corners.size < 3) {
                 return 0;
             }
             int sum = 0;
-            for (int p = 0; p < size; p++) {
+            for (int p = 0; p < corners.size; p++) {
                 int q = cornerAfter(p);
-                sum += xs[p] * ys[q] - xs[q] * ys[p];
+                sum += corners.firsts[p] * corners.seconds[q] - corners.firsts[q] * corners.seconds[p];
             }
             return Math.abs(sum);
         }
 
         boolean holds(int x, int y) {
-            if (size < 3) {
+            if (corners.size < 3) {
                 return false;
             }
             boolean odd = false;
-            for (int p = 0; p < size; p++) {
+            for (int p = 0; p < corners.size; p++) {
                 if (isLeftOfSide(x, y, p, cornerAfter(p))) {
                     odd = !odd;
                 }
@@ -423,18 +433,20 @@ public final class FieldRows {
         }
 
         private int cornerAfter(int p) {
-            return p + 1 < size ? p + 1 : 0;
+            return p + 1 < corners.size ? p + 1 : 0;
         }
 
         private boolean isLeftOfSide(int x, int y, int p, int q) {
+            int pY = corners.seconds[p];
+            int qY = corners.seconds[q];
             // Corners are whole and middles are at the half: above y is above the middle.
-            if ((ys[p] > y) == (ys[q] > y)) {
+            if ((pY > y) == (qY > y)) {
                 return false;
             }
             // All is doubled and multiplied out, so that it stays exact; a falling side turns the sign.
-            int rise = ys[q] - ys[p];
-            int middle = (2 * x + 1 - 2 * xs[p]) * rise;
-            int line = (2 * y + 1 - 2 * ys[p]) * (xs[q] - xs[p]);
+            int rise = qY - pY;
+            int middle = (2 * x + 1 - 2 * corners.firsts[p]) * rise;
+            int line = (2 * y + 1 - 2 * pY) * (corners.firsts[q] - corners.firsts[p]);
             return rise > 0 ? middle < line : middle > line;
         }
     }
@@ -1010,32 +1022,6 @@ public final class FieldRows {
                 after += turns.length(plan.numbers[i], entered);
             }
             return after < before;
-        }
-    }
-
-    /** The slants that are told. */
-    private static final class Slants {
-        final int[] as = new int[MOST_SLANTS];
-        final int[] bs = new int[MOST_SLANTS];
-        int size;
-
-        boolean isFull() {
-            return size >= MOST_SLANTS;
-        }
-
-        int add(int a, int b) {
-            if (!isFull()) {
-                as[size] = a;
-                bs[size] = b;
-                size++;
-            }
-            return size;
-        }
-
-        int drop() {
-            int had = size;
-            size = 0;
-            return had;
         }
     }
 

@@ -114,13 +114,11 @@ public final class FaceTests {
 
     /** Calls share one room with all others of a run, so only constructors may make arrays and objects. */
     private static void whatIsMade(String source) {
-        int constructor = source.indexOf("public FieldRows() {");
-        int behind = source.indexOf("\n    }\n", constructor);
-        String calls = source.substring(0, constructor) + source.substring(behind);
+        String calls = source.replaceAll("(?ms)^( +)(public )?[A-Z]\\w+\\([^)]*\\) \\{\n.*?^\\1\\}\n", "");
+        CHECK.same("constructors are left out", "true", "" + (calls.length() < source.length()));
         for (String line : calls.split("\n")) {
             if (line.matches(".*\\bnew\\b.*") && !line.matches(" *(\\*|/\\*\\*|//).*")) {
-                boolean fine = line.contains("throw new ") || line.matches(" {8}(private )?final int\\[\\] \\w+ = new int\\[.*")
-                        || line.matches(" {8}(private )?final boolean\\[\\] \\w+ = new boolean\\[.*");
+                boolean fine = line.contains("throw new ") || line.matches(" {8}(private )?final [\\w\\[\\]]+ \\w+ = new .*");
                 CHECK.same("made by an exception or with the object: " + line.trim(), "true", "" + fine);
             }
         }
