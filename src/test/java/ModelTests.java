@@ -2,7 +2,10 @@ import java.util.ArrayList;
 import java.util.List;
 import java.util.Random;
 
-/** Runs of random calls on FieldRows and on Model, whose answers must be the same. */
+/**
+ * Runs of random calls on FieldRows and on Model, whose answers must be the same. What to call next
+ * is read from the Model alone, so that no object gets more than 512 calls.
+ */
 public final class ModelTests {
     private static final int[] WILD = {Integer.MIN_VALUE, -1000, -10, -9, -2, -1, 0, 1, 2, 5, 6, 8, 9, 10, 11, 12, 13,
         29, 30, 31, 39, 40, 41, 60, 119, 120, 400, 401, 1000, 1001, 100000, 100001, 1000000, 1000001,
@@ -44,7 +47,7 @@ public final class ModelTests {
                 makeField();
                 call("lay", HEADS[random.nextInt(HEADS.length)]);
             }
-            if (random.nextInt(6) == 0 || rows.count(0) == 0) {
+            if (random.nextInt(6) == 0 || model.count(0) == 0) {
                 call("lay", HEADS[random.nextInt(HEADS.length)]);
             }
             for (int k = 0; k < 12; k++) {
@@ -141,28 +144,28 @@ public final class ModelTests {
         for (int k = 0; k < 3; k++) {
             int width = 1 + random.nextInt(random.nextBoolean() ? 400 : 20);
             call("rows", a, b, width);
-            if (rows.count(3) == 0 || rows.count(4) > 0 && rows.count(4) <= mostRows) {
+            if (model.count(3) == 0 || model.count(4) > 0 && model.count(4) <= mostRows) {
                 break;
             }
         }
-        if (rows.count(4) > mostRows) {
+        if (model.count(4) > mostRows) {
             call("rows", a, b, 400);
         }
-        int some = Math.min(rows.count(4), 3);
+        int some = Math.min(model.count(4), 3);
         for (int k = 0; k < some; k++) {
-            int row = random.nextInt(rows.count(4));
+            int row = random.nextInt(model.count(4));
             for (int what = 0; what < 6; what++) {
                 call("row", row, what);
             }
-            call("turn", random.nextInt(2 * rows.count(4)), random.nextInt(2 * rows.count(4)));
+            call("turn", random.nextInt(2 * model.count(4)), random.nextInt(2 * model.count(4)));
         }
     }
 
     private void swingSome() {
-        if (rows.count(5) == 0) {
+        if (model.count(5) == 0) {
             call("best");
         }
-        int size = Math.max(rows.count(4), 1);
+        int size = Math.max(model.count(4), 1);
         for (int k = 0; k < 3; k++) {
             int i = random.nextInt(size);
             call("swing", i, i + random.nextInt(size + 1 - i));
@@ -171,7 +174,7 @@ public final class ModelTests {
     }
 
     private void lookAtPlan() {
-        int size = Math.min(rows.count(4), 15);
+        int size = Math.min(model.count(4), 15);
         for (int k = 0; k <= size; k++) {
             call("plan", k);
         }
