@@ -17,11 +17,31 @@ import java.util.regex.Pattern;
  */
 public final class FaceTests {
     private static final String[] FACE = {
-        "int corner(int, int, int)", "int clear(int)", "int area(int)", "int lay(int)", "int square(int, int)",
-        "int rows(int, int, int)", "int row(int, int)", "int rowOf(int, int)", "int way(int, int, int, int)",
-        "int turn(int, int)", "int best()", "int bound()", "int plan(int)", "int swing(int, int)", "int slant(int, int)",
-        "int unslant()", "int choose(int)", "void yields(int, int, int)", "void bears(int, int, int)",
-        "void reaper(int, int, int)", "int run()", "int look(int)", "int wagon(int)", "int count(int)"};
+        "int corner(int, int, int) throws IndexOutOfBoundsException, "
+            + "IllegalArgumentException, UnsupportedOperationException",
+        "int clear(int) throws IndexOutOfBoundsException",
+        "int area(int) throws IndexOutOfBoundsException",
+        "int lay(int) throws IllegalArgumentException",
+        "int square(int, int) throws IllegalStateException",
+        "int rows(int, int, int) throws IllegalStateException, IllegalArgumentException",
+        "int row(int, int) throws IllegalStateException, NoSuchElementException",
+        "int rowOf(int, int) throws IllegalStateException",
+        "int way(int, int, int, int) throws IllegalStateException",
+        "int turn(int, int) throws IllegalStateException, NoSuchElementException",
+        "int best() throws IllegalStateException",
+        "int bound() throws IllegalStateException",
+        "int plan(int)",
+        "int swing(int, int) throws IllegalStateException, IllegalArgumentException",
+        "int slant(int, int)",
+        "int unslant()",
+        "int choose(int) throws IllegalStateException, IllegalArgumentException",
+        "void yields(int, int, int) throws IndexOutOfBoundsException, IllegalArgumentException",
+        "void bears(int, int, int) throws IndexOutOfBoundsException, IllegalArgumentException",
+        "void reaper(int, int, int) throws IllegalArgumentException",
+        "int run() throws IllegalStateException",
+        "int look(int) throws NoSuchElementException",
+        "int wagon(int)",
+        "int count(int)"};
 
     private static final Check CHECK = new Check("FaceTests");
 
@@ -68,7 +88,12 @@ public final class FaceTests {
         for (Class<?> parameter : method.getParameterTypes()) {
             parameters.add(parameter.getName());
         }
-        return method.getReturnType().getName() + " " + method.getName() + "(" + String.join(", ", parameters) + ")";
+        List<String> thrown = new ArrayList<>();
+        for (Class<?> exception : method.getExceptionTypes()) {
+            thrown.add(exception.getSimpleName());
+        }
+        return method.getReturnType().getName() + " " + method.getName() + "(" + String.join(", ", parameters) + ")"
+                + (thrown.isEmpty() ? "" : " throws " + String.join(", ", thrown));
     }
 
     private static void theClassesInside() {

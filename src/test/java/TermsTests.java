@@ -279,7 +279,7 @@ public final class TermsTests {
         FieldRows wide = Fields.laidBox(6, 1, 0);
         CHECK.is("T2: of b, by 3", 4, () -> wide.rows(0, 1, 3));
         CHECK.same("T2: the greater x the less", "332110", Fields.rowsOf(wide, 6, 1));
-        CHECK.same("T2: both, by 4: 0 and -2 are of two", "-1 1 1 0 1 0", rowsThenRow(Fields.laidBox(2, 1, 0), 1, 1, 4, 0));
+        CHECK.same("T2: -2 by 4 is -1", "-1 1 1 0 1 0", rowsThenRow(Fields.laidBox(2, 1, 0), 1, 1, 4, 0));
         CHECK.same("T2: -4 by 4 is -1", "-1 2 1 0 2 0", rowsThenRow(Fields.laidBox(3, 1, 0), 1, 1, 4, 0));
         CHECK.same("T2: -6 by 4 is -2", "-2 1 3 0 3 0", rowsThenRow(Fields.laidBox(4, 1, 0), 1, 1, 4, 0));
         CHECK.is("T2: around 0 are two strips", 2, () -> Fields.laidBox(2, 1, 0).rows(1, 1, 400));
@@ -384,7 +384,7 @@ public final class TermsTests {
         CHECK.is("T2: the lesser ALONG, not the lesser y", 0, () -> square.rowOf(3, 3));
     }
 
-    /** "the first SQUARE ... least ALONG, of several of the least y, then x ...; END 1 ... likewise ... (perhaps the same)" */
+    /** "of the least ALONG, of several of the least y, then x ...; END 1 ... likewise ... (perhaps the same)" */
     private static void endsOfRows() {
         FieldRows f = Fields.laidBox(3, 2, 0);
         CHECK.same("T2: along x, of several y the least", "0 6 0 0 2 0", rowsThenRow(f, 1, 0, 400, 0));
@@ -406,7 +406,8 @@ public final class TermsTests {
         CHECK.same("T2: END 0 of (1, 1) and (0, 2) is that of the least y", "0 4 1 1 2 2", Fields.rowOf(low, 1));
         FieldRows one = Fields.laidBox(1, 1, 0);
         CHECK.same("T2: one SQUARE is both", "0 1 0 0 0 0", rowsThenRow(one, 1, 0, 2, 0));
-        CHECK.same("T2: a row across its slant has one SQUARE for both", "0 3 0 0 0 0", rowsThenRow(Fields.laidBox(1, 3, 0), 1, 0, 400, 0));
+        FieldRows across = Fields.laidBox(1, 3, 0);
+        CHECK.same("T2: across its slant one SQUARE is both", "0 3 0 0 0 0", rowsThenRow(across, 1, 0, 400, 0));
     }
 
     /** 3 x 3 without (0, 0) and (0, 1), in two rows along the slant (1, 1). */
@@ -606,7 +607,7 @@ public final class TermsTests {
         CHECK.is("T3: no PLAN", 0, () -> last.count(5));
     }
 
-    /** "of all stretches ... (i from 0 on, of each i j from i on) the first one ... gives a lesser SUM ...; till there is none" */
+    /** "(i from 0 on, of each i j from i on) the first one ... gives a lesser SUM is turned round; till there is none" */
     private static void stretchesFromTheFirstOn() {
         FieldRows single = Fields.newBox(4, 12);
         Fields.box(single, 1, 3, 3, 4, 4);
@@ -743,7 +744,8 @@ public final class TermsTests {
         CHECK.is("T4: and no other", NONE, () -> f.wagon(1));
         f.reaper(999, 0, 1);
         CHECK.is("T4: each YIELD above CAPACITY", 240, f::run);
-        CHECK.same("T4: a wagon at each, to the empty one, too", "240 120 120000 1000 120 119000 0 1000", Fields.looksOf(f));
+        CHECK.same("T4: a wagon at each, to the empty one, too", "240 120 120000 1000 120 119000 0 1000",
+                Fields.looksOf(f));
         CHECK.is("T4: at the first", 0, () -> f.wagon(0));
         CHECK.is("T4: at the last", 119, () -> f.wagon(119));
         CHECK.is("T4: and no more", NONE, () -> f.wagon(120));
