@@ -1,6 +1,8 @@
 /**
  * The boundaries that the Terms of the document name, sentence by sentence (each test bears the
- * sentence's number and words). What is due is worked out by hand from the words.
+ * sentence's number and words). What is due is worked out by hand from the words, but for the BEST of
+ * the greater fields (nineRowsAndTen, noTurnToAny, stretchesFromTheFirstOn): those fields and their
+ * answers were found by a search that made BEST a second time, and its misreadings beside it.
  */
 public final class TermsTests {
     private static final int NONE = FieldRows.NONE;
