@@ -771,7 +771,9 @@ public final class FieldRows {
         }
 
         void forget() {
-            Arrays.fill(known, false);
+            for (int from = 0; from < MOST_NUMBERS; from++) {
+                known[from] = false;
+            }
         }
 
         void learnAll() {

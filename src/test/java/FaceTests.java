@@ -1,4 +1,6 @@
+import java.io.DataInputStream;
 import java.io.IOException;
+import java.io.InputStream;
 import java.lang.reflect.Constructor;
 import java.lang.reflect.Field;
 import java.lang.reflect.Method;
@@ -43,11 +45,26 @@ public final class FaceTests {
         "int wagon(int)",
         "int count(int)"};
 
+    /** What of rule 4's library, and of rule 6's exceptions, the class needs. */
+    private static final List<String> LIBRARY = List.of(
+        "java/lang/Object.<init>()V",
+        "java/lang/Math.abs(I)I",
+        "java/lang/Math.floorDiv(II)I",
+        "java/lang/Math.max(II)I",
+        "java/lang/Math.min(II)I",
+        "java/util/Arrays.fill([II)V",
+        "java/lang/IllegalArgumentException.<init>(Ljava/lang/String;)V",
+        "java/lang/IllegalStateException.<init>(Ljava/lang/String;)V",
+        "java/lang/IndexOutOfBoundsException.<init>(Ljava/lang/String;)V",
+        "java/lang/UnsupportedOperationException.<init>(Ljava/lang/String;)V",
+        "java/util/NoSuchElementException.<init>(Ljava/lang/String;)V");
+
     private static final Check CHECK = new Check("FaceTests");
 
     public static void main(String[] args) throws IOException {
         theFace();
         theClassesInside();
+        theLibrary();
         String source = Files.readString(Path.of("src/main/java/FieldRows.java"));
         theSource(source);
         whatIsMade(source);
@@ -61,10 +78,7 @@ public final class FaceTests {
         TreeSet<String> got = new TreeSet<>();
         for (Method method : face.getDeclaredMethods()) {
             if (Modifier.isPrivate(method.getModifiers())) {
-                for (String one : FACE) {
-                    String name = one.substring(one.indexOf(' ') + 1, one.indexOf('('));
-                    CHECK.same("private " + method.getName() + " is " + name, "false", "" + name.equals(method.getName()));
-                }
+                CHECK.same("private " + method.getName() + " is of the face", "false", "" + isOfTheFace(method.getName()));
             } else {
                 CHECK.same(method.getName(), "public", Modifier.toString(method.getModifiers()));
                 got.add(signature(method));
@@ -111,8 +125,90 @@ public final class FaceTests {
             }
             for (Method method : one.getDeclaredMethods()) {
                 CHECK.same(method.getName() + " takes at most seven", "true", "" + (method.getParameterCount() <= 7));
+                CHECK.same(method.getName() + " is none of the face", "false",
+                        "" + (Modifier.isPrivate(method.getModifiers()) && isOfTheFace(method.getName())));
+            }
+            long fields = List.of(one.getDeclaredFields()).stream().filter(f -> !Modifier.isStatic(f.getModifiers())).count();
+            CHECK.same(one.getSimpleName() + " has some twenty fields at most", "true", "" + (fields <= 20));
+        }
+    }
+
+    private static boolean isOfTheFace(String name) {
+        for (String one : FACE) {
+            if (name.equals(one.substring(one.indexOf(' ') + 1, one.indexOf('(')))) {
+                return true;
             }
         }
+        return false;
+    }
+
+    /** Rule 4, as the compiler wrote it: Arrays.fill is for arrays of numbers, not of booleans. */
+    private static void theLibrary() throws IOException {
+        TreeSet<String> got = new TreeSet<>(libraryOf("FieldRows"));
+        for (Class<?> one : FieldRows.class.getDeclaredClasses()) {
+            got.addAll(libraryOf(one.getName()));
+        }
+        CHECK.same("the class files were read", "true", "" + got.contains("java/lang/Object.<init>()V"));
+        for (String one : got) {
+            CHECK.same(one + " is in the library that is left", "true", "" + LIBRARY.contains(one));
+        }
+    }
+
+    /** The methods of the Java library that a class calls, out of the constants of its class file. */
+    private static List<String> libraryOf(String name) throws IOException {
+        try (InputStream file = FaceTests.class.getResourceAsStream("/" + name + ".class");
+                DataInputStream in = new DataInputStream(file)) {
+            in.readLong();
+            Object[] constants = new Object[in.readUnsignedShort()];
+            for (int k = 1; k < constants.length; k++) {
+                int tag = in.readUnsignedByte();
+                constants[k] = readConstant(in, tag);
+                if (tag == 5 || tag == 6) {
+                    k++;
+                }
+            }
+            return libraryOf(constants);
+        }
+    }
+
+    /** A text, or the places of others (a method's behind a sign that it is one), or nothing of use here. */
+    private static Object readConstant(DataInputStream in, int tag) throws IOException {
+        switch (tag) {
+            case 1:
+                return in.readUTF();
+            case 7:
+            case 8:
+            case 16:
+            case 19:
+            case 20:
+                return new int[] {in.readUnsignedShort()};
+            case 5:
+            case 6:
+                return in.readLong();
+            case 10:
+            case 11:
+                return new int[] {in.readUnsignedShort(), in.readUnsignedShort(), tag};
+            case 12:
+                return new int[] {in.readUnsignedShort(), in.readUnsignedShort()};
+            case 15:
+                return List.of(in.readUnsignedByte(), in.readUnsignedShort());
+            default:
+                return in.readInt();
+        }
+    }
+
+    private static List<String> libraryOf(Object[] constants) {
+        List<String> all = new ArrayList<>();
+        for (Object constant : constants) {
+            if (constant instanceof int[] method && method.length == 3) {
+                Object owner = constants[((int[]) constants[method[0]])[0]];
+                int[] told = (int[]) constants[method[1]];
+                if (owner.toString().startsWith("java")) {
+                    all.add(owner + "." + constants[told[0]] + constants[told[1]]);
+                }
+            }
+        }
+        return all;
     }
 
     private static void theSource(String source) {
